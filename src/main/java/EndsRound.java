@@ -971,7 +971,6 @@ public final class EndsRound {
             }
             blank(rhymesWith, 0);
             blank(every, 0);
-            blank(barredBehind, 0);
         }
 
         void copy(Form other) {
@@ -1526,7 +1525,7 @@ public final class EndsRound {
                         offer(word, bits);
                     }
                 }
-                if (i + 1 == form.words || !form.areRhyming(word, cell(byRhyme, i + 1))) {
+                if (i + 1 < form.words && !form.areRhyming(word, cell(byRhyme, i + 1))) {
                     dropBroken(all);
                 }
             }
@@ -1600,13 +1599,17 @@ public final class EndsRound {
         }
 
         private static int mixed(Form form, int[] tints, int place) {
-            int sum = cell(tints, place) * 31 + cell(tints, cell(form.from, place)) * 17;
+            // The two factors add up to an odd number, so that no place that stays loses its tint.
+            int sum = spread(cell(tints, place)) * 31 + spread(cell(tints, cell(form.from, place))) * 18;
             int others = cell(form.rhymesWith, place);
             for (int q = 0; others != 0 && q < form.ends; q++) {
-                int tint = cell(tints, q);
-                sum += (others >> q & 1) != 0 ? (tint ^ tint >>> 15) * 73471 + 5 : 0;
+                sum += (others >> q & 1) != 0 ? spread(cell(tints, q)) : 0;
             }
             return sum;
+        }
+
+        private static int spread(int tint) {
+            return (tint ^ tint >>> 15) * 73471 + 5;
         }
 
         private boolean haveSameTints() {

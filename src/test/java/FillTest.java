@@ -88,6 +88,10 @@ final class FillTest {
         Checks.due("stuck of eight", poem.stuck(0), -1);
         Checks.due("stuck bits of eight", poem.stuck(1), -1);
         // What was found for one form is not told of another one.
+        Checks.read(poem, "ends 3;");
+        Checks.due("stuck of three", poem.stuck(1), 1);
+        Checks.read(poem, "ends 3;" + words(1, 1));
+        Checks.due("stuck of three of two", poem.stuck(1), 7);
         Checks.read(poem, "ends 2;" + words(1, 1));
         filled(poem, "two", 2, 0, 1);
         Checks.due("lay", poem.mark(2, false), true);

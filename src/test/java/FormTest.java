@@ -21,6 +21,7 @@ final class FormTest {
             "ends 1;bar 9999;bar 0000;bar((((alike))));bar not not not not sort;",
             "ends 1;bar " + FIVE.substring(0, 12) + "1 ) ) and ( ( ( ( 1 ) ) ) );",
             "ends 1;bar sort+next*long-short<1*2 and 1=2 or alike;",
+            "ends 1;word azbz rhyme 1 beats 1 kind 1;word az rhyme 1 beats 1 kind 1;",
             "ends 2;bar 1;feet 1;whole 1 every 99;rhyme 0 1;turn back;feet2", "ends 1;word w0rhyme1beats1kind1;",
         };
         for (String text : texts) {

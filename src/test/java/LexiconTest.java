@@ -118,6 +118,12 @@ final class LexiconTest {
         Checks.due("none barred", poem.barred(3, 0), -1);
         Checks.due("barred -1", poem.barred(0, -1), -1);
         Checks.due("-1 barred", poem.barred(-1, 0), -1);
+        Checks.due("another form", Checks.read(poem, "ends 1;word a rhyme 1 beats 1 kind 1;word b rhyme 1 beats 1 kind 2;"), 0);
+        Checks.due("a form's bars are its own", poem.barred(0, 1), 0);
+        Checks.due("a fault behind a bar", Checks.read(poem, "ends 1;bar 1;rhyme;"), 1 + 16 * 18);
+        Checks.due("a fault bars none", poem.barred(0, 1), 0);
+        Checks.due("a form again", Checks.read(poem, "ends 1;bar 0;word a rhyme 1 beats 1 kind 1;"), 0);
+        Checks.due("a fault's bars are gone", poem.barred(0, 0), 0);
         Checks.due("no bars", Checks.of("ends 1;word a rhyme 1 beats 1 kind 1;").barred(0, 0), 0);
     }
 }

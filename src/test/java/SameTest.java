@@ -4,6 +4,7 @@ final class SameTest {
         marks();
         turnings();
         rhymesAndWholes();
+        backAgain();
         hard();
         Checks.end();
     }
@@ -91,6 +92,13 @@ final class SameTest {
         same("ends 4;turn back;whole 0 every 1;rhyme 0 3;", "ends 4;turn swap 0 1 swap 2 3;whole 2 every 1;rhyme 1 3;");
         same("ends 4;turn shift 1;rhyme 0 1;", "ends 4;turn shift 1;rhyme 0 2;");
         same("ends 4;turn shift 1;rhyme 0 1;", "ends 4;turn shift 1;rhyme 0 3;", 3, 0, 1, 2);
+    }
+
+    /** Forms where the least name that fits a place is not one that all the others fit to. */
+    private static void backAgain() {
+        same("ends 12;rhyme 0 2;rhyme 2 3;rhyme 3 4;rhyme 4 1;rhyme 1 5;rhyme 5 6;rhyme 6 7;rhyme 7 0;",
+            "ends 12;rhyme 0 1;rhyme 1 2;rhyme 2 3;rhyme 3 4;rhyme 4 5;rhyme 5 6;rhyme 6 7;rhyme 7 0;",
+            0, 4, 1, 2, 3, 5, 6, 7, 8, 9, 10, 11);
     }
 
     /** Forms that a search through all orders of places would not end on. */
