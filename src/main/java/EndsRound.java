@@ -55,7 +55,6 @@ public final class EndsRound {
     private static final int NEXT = 148;
     private static final int LONG = 149;
     private static final int SHORT = 150;
-    private static final int ALIKE = 151;
 
     private static final int LONGEST_WORD = 8;
     private static final int LONGEST_NUMBER = 4;
