@@ -1,17 +1,55 @@
+import java.io.IOException;
+import java.io.UncheckedIOException;
+import java.nio.file.Files;
+import java.nio.file.Path;
+import java.util.Arrays;
 import java.util.NoSuchElementException;
 
 /** What the project's tests share: feeding a text, and comparing an answer with the one that is due. */
 final class Checks {
+    private static final Path DOCUMENT = Path.of("../shared/DOC.md");
+    // None of these is a place, an end, a word, a mark or a what; some would be if they were shifted or multiplied.
+    private static final int[] OUTSIDE = {Integer.MIN_VALUE, Integer.MIN_VALUE + 1, -32, -2, -1, 12, 13, 32, 64, 256, 65536, 178956971,
+        357913942, 1 << 30, Integer.MAX_VALUE - 1, Integer.MAX_VALUE};
+
     private static int wrong = 0;
+    private static String about = "";
+    private static String document = "";
 
     private Checks() {
+    }
+
+    /** What is checked from here on is of a promise, and of a sentence that stands so in the document. */
+    static void sentence(int promise, String words) {
+        about = "promise " + promise + ", \"" + words + "\": ";
+        due("the document has the sentence", document().isEmpty() || document().contains(words), true);
+    }
+
+    /** The document, each run of blanks and ends of lines as one blank; empty where it does not lie. */
+    static String document() {
+        if (document.isEmpty() && Files.exists(DOCUMENT)) {
+            try {
+                document = Files.readString(DOCUMENT).replaceAll("\\s+", " ");
+            } catch (IOException e) {
+                throw new UncheckedIOException(e);
+            }
+        }
+        return document;
     }
 
     static void due(String call, long got, long want) {
         if (got != want) {
             wrong++;
-            System.out.println(call + " answered " + got + ", due is " + want);
+            System.out.println(about + call + " answered " + got + ", due is " + want);
         }
+    }
+
+    /** What lies outside 0 to count less 1, the nearest ones among them. */
+    static int[] outside(int count) {
+        int[] all = Arrays.copyOf(OUTSIDE, OUTSIDE.length + 2);
+        all[OUTSIDE.length] = count;
+        all[OUTSIDE.length + 1] = count + 1;
+        return Arrays.stream(all).filter(i -> i < 0 || i >= count).toArray();
     }
 
     static void due(String call, boolean got, boolean want) {
