@@ -124,11 +124,14 @@ final class BoundsDraftTest {
             poem.line(i % 2, 7, 7);
         }
         poem.mark(0, false);
+        Checks.due("mend() of a full draft", poem.mend(), 30);
+        Checks.due("judged(0) of a full draft", Checks.judged(poem, 0), 2);
         Checks.due("clear() of a full draft", poem.clear(), true);
         Checks.due("count(7)", poem.count(7), 0);
         Checks.due("judged(0)", Checks.judged(poem, 0), -1);
         Checks.due("judged(1)", Checks.judged(poem, 1), 0);
         Checks.due("mend()", poem.mend(), 0);
+        Checks.due("mended(0)", poem.mended(0), 0);
         Checks.due("count(5): the form stays", poem.count(5), 2);
         Checks.due("turning(0, 0): the form stays", poem.turning(0, 0), 1);
         Checks.due("the first line", poem.line(1, 0, 0), 1);

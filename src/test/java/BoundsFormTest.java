@@ -333,6 +333,22 @@ final class BoundsFormTest {
             good("ends 3;" + WORD + "word aa rhyme 1 beats 1 kind 1;word b rhyme 1 beats 1 kind 1;word ab rhyme 1 beats 1 kind 1;");
             Checks.fault("ends 3;word abcdefgh rhyme 1 beats 1 kind 1;word abcdefgi rhyme 1 beats 1 kind 1;word ^abcdefgh;", 3);
             Checks.fault("ends 3;word b rhyme 1 beats 1 kind 1;" + WORD + "word ^b rhyme 1 beats 1 kind 1;", 3);
+            // Names that are the same but for one letter, at each of eight places, are not alike.
+            for (int place = 0; place < 8; place++) {
+                for (char first = 'a'; first <= 'z'; first += 12) {
+                    StringBuilder text = new StringBuilder("ends 3;");
+                    for (char letter = first; letter <= 'z' && letter < first + 12; letter++) {
+                        text.append("word ").append("zzzzzzzz", 0, place).append(letter).append("zzzzzzzz", place + 1, 8)
+                            .append(" rhyme 1 beats 1 kind 1;");
+                    }
+                    good(text.toString());
+                }
+            }
+            StringBuilder few = new StringBuilder("ends 3;");
+            for (String name : new String[] {"r", "ab", "aa", "q", "b", "ba", "az", "z", "sort", "next", "long", "alike"}) {
+                few.append("word ").append(name).append(" rhyme 1 beats 1 kind 1;");
+            }
+            good(few.toString());
             // The last of twelve names is like the first, or like the last but one.
             StringBuilder ten = new StringBuilder("ends 3;");
             for (char name = 'a'; name <= 'k'; name++) {
@@ -563,6 +579,35 @@ final class BoundsFormTest {
             Checks.due("gone back to the mark", poem.mark(0, true), true);
             Checks.due("count(7) of the mark", poem.count(7), 1);
             Checks.due("barred(0, 0) of the mark", poem.barred(0, 0), 1);
+            nothingOfTheFormBefore();
+        }
+
+        // Each call is asked before the new form and behind it.
+        private static void nothingOfTheFormBefore() {
+            EndsRound poem = good("ends 3;turn shift 1;rhyme 0 2;bar next<sort;" + BoundsWordsTest.words(1, 1, 1));
+            int[] before = {2, 0, 1, 3, 7, 1};
+            int[] behind = {1, 1, 0, -1, -1, 0};
+            asked(poem, before);
+            Checks.due("mended(0)", poem.mended(0), 0);
+            Checks.due("another form", Checks.read(poem, "ends 3;rhyme 1 2;" + BoundsWordsTest.words(1, 2)), 0);
+            asked(poem, new int[] {1, 1, 0, 2, 6, 0});
+            Checks.due("mended(0)", poem.mended(0), -1);
+            Checks.due("a third form", Checks.read(poem, "ends 3;" + BoundsWordsTest.words(1, 2, 3)), 0);
+            asked(poem, behind);
+            Checks.due("mended(0)", poem.mended(0), 0);
+            Checks.due("a form with less of all", Checks.read(poem, "ends 2;" + BoundsWordsTest.words(1, 2)), 0);
+            asked(poem, behind);
+        }
+
+        private static void asked(EndsRound poem, int[] want) {
+            Checks.due("beside(0, 1)", poem.beside(0, 1), want[0]);
+            Checks.due("rhymes(1)", poem.rhymes(1), want[1]);
+            Checks.due("turning(0, 0)", poem.turning(0, 0), want[2]);
+            Checks.due("stuck(0)", poem.stuck(0), want[3]);
+            Checks.due("stuck(1)", poem.stuck(1), want[4]);
+            Checks.due("fill(0)", poem.fill(0), want[4] < 0 ? 0 : -1);
+            Checks.due("fills() is 0", poem.fills() == 0, want[4] >= 0);
+            Checks.due("barred(1, 0)", poem.barred(1, 0), want[5]);
         }
 
         private static void allStays() {

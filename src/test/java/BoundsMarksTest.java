@@ -8,6 +8,7 @@ final class BoundsMarksTest {
         nothingOnIt();
         renamedOfOthers();
         formAndDraft();
+        wordsTextsBeats();
         laid();
         noneSuch();
         back();
@@ -89,6 +90,10 @@ final class BoundsMarksTest {
         same("ends 4;rhyme 0 1;rhyme 2 3;", "ends 4;rhyme 0 2;rhyme 1 3;", 0, 2, 1, 3);
         same("ends 4;turn back;", "ends 4;turn swap 0 1 swap 2 3;", 0, 2, 3, 1);
         same("ends 4;turn shift 1;whole 0 every 1;", "ends 4;turn shift 1;whole 3 every 1;", 3, 0, 1, 2);
+        // The least name that place 1 could have leaves none for the others.
+        same("ends 12;rhyme 0 2;rhyme 2 3;rhyme 3 4;rhyme 4 1;rhyme 1 5;rhyme 5 6;rhyme 6 7;rhyme 7 0;",
+            "ends 12;rhyme 0 1;rhyme 1 2;rhyme 2 3;rhyme 3 4;rhyme 4 5;rhyme 5 6;rhyme 6 7;rhyme 7 0;",
+            0, 4, 1, 2, 3, 5, 6, 7, 8, 9, 10, 11);
     }
 
     private static void nothingOnIt() {
@@ -160,6 +165,30 @@ final class BoundsMarksTest {
             Checks.due("barred(0, 1) of the mark", poem.barred(0, 1), mark > 0 ? 0 : -1);
             Checks.due("judged(1) of the mark " + mark, Checks.judged(poem, 1), why[mark]);
             Checks.due("same(" + mark + ")", poem.same(mark), 1);
+        }
+    }
+
+    private static void wordsTextsBeats() {
+        Checks.sentence(25, "MARKS 0 to 3 hold the FORM and the DRAFT as they are.");
+        EndsRound poem = Checks.of("ends 1;whole 0 every 1;feet 9;" + alike(12));
+        int[][] second = {{11, 999, 9}, {10, 999, 9}, {11, 998, 9}, {11, 999, 8}};
+        int[] why = {0, 1, 3, 4};
+        for (int mark = 0; mark < 4; mark++) {
+            poem.clear();
+            poem.line(11, 999, 9);
+            poem.line(second[mark][0], second[mark][1], second[mark][2]);
+            Checks.due("mark(" + mark + ", false)", poem.mark(mark, false), true);
+        }
+        poem.clear();
+        poem.line(0, 0, 0);
+        poem.line(0, 0, 0);
+        Checks.due("mend()", poem.mend(), 0);
+        Checks.due("mended(0)", poem.mended(0), 0);
+        for (int mark = 0; mark < 4; mark++) {
+            Checks.due("mark(" + mark + ", true)", poem.mark(mark, true), true);
+            Checks.due("judged(1) of the mark " + mark, Checks.judged(poem, 1), why[mark]);
+            Checks.due("mend() of the mark " + mark, poem.mend(), mark == 1 ? 1 : 0);
+            Checks.due("mended(0) of the mark " + mark, poem.mended(0), mark == 1 ? 10 : 11);
         }
     }
 
