@@ -320,6 +320,7 @@ final class BoundsWordsTest {
             oneClass();
             oneBehindTheOther();
             sevenAtMost();
+            moreThanSeven();
             leastFirst();
             fillOfOthers();
         }
@@ -373,6 +374,9 @@ final class BoundsWordsTest {
             Checks.sentence(15, "FILLS: how many (with 7 ends at most).");
             fills("ends 7;bar next<sort;" + alike(12), 792);
             fills("ends 7;" + alike(7), 5040);
+        }
+
+        private static void moreThanSeven() {
             Checks.sentence(15, "FILLS; NONE: more than 7 ends.");
             for (int ends = 8; ends <= 12; ends++) {
                 fills("ends " + ends + ";" + alike(12), -1);
