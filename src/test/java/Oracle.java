@@ -32,6 +32,22 @@ final class Oracle {
         }
     }
 
+    /** The same form and draft, of which the draft can be changed alone. */
+    Oracle copy() {
+        Oracle other = new Oracle();
+        other.ends = ends;
+        other.steps = steps;
+        other.feet = feet;
+        other.bars = bars;
+        other.from = from;
+        other.rhymes.addAll(rhymes);
+        other.wholes.addAll(wholes);
+        other.words.addAll(words);
+        other.tests.addAll(tests);
+        other.draft.addAll(draft);
+        return other;
+    }
+
     // ---- reading ----
 
     private final List<String> tokens = new ArrayList<>();

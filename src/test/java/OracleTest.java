@@ -6,6 +6,7 @@ import java.util.Random;
 /** All promises: random forms, drafts and marks, each answer compared with the oracle's. */
 final class OracleTest {
     private static final Random RANDOM = new Random(20261118);
+    private static final RandomForm FORMS = new RandomForm(RANDOM);
 
     public static void main(String[] args) {
         for (int i = 0; i < 1500; i++) {
@@ -21,90 +22,13 @@ final class OracleTest {
     }
 
     private static int upTo(int most) {
-        return RANDOM.nextInt(most + 1);
-    }
-
-    private static String pick(String... all) {
-        return all[RANDOM.nextInt(all.length)];
-    }
-
-    private static String text(int ends) {
-        List<String> lines = new ArrayList<>();
-        for (int i = upTo(3); i > 0; i--) {
-            StringBuilder turn = new StringBuilder("turn");
-            for (int k = upTo(2); k >= 0; k--) {
-                String step = pick("spiral", "back", "halves", "thirds", "shift", "swap");
-                turn.append(' ').append(step.equals("swap") && ends < 2 ? "back" : step);
-                if (step.equals("shift")) {
-                    turn.append(' ').append(upTo(11));
-                } else if (step.equals("swap") && ends > 1) {
-                    turn.append(pair(ends));
-                }
-            }
-            lines.add((lines.isEmpty() || RANDOM.nextBoolean() ? turn : "turn back") + ";");
-        }
-        for (int i = upTo(2) * upTo(2); i > 0 && ends > 1; i--) {
-            lines.add("rhyme" + pair(ends) + ";");
-        }
-        for (int p = 0; p < ends; p++) {
-            if (upTo(3) == 0) {
-                lines.add("whole " + p + " every " + (1 + upTo(2)) + ";");
-            }
-        }
-        if (upTo(2) == 0) {
-            lines.add("feet " + (1 + upTo(1)) + ";");
-        }
-        for (int i = upTo(Math.min(12, ends + 3)), rhymes = upTo(3); i > 0; i--) {
-            lines.add("word w" + (char) ('a' + i) + " rhyme " + upTo(rhymes) + " beats " + (1 + upTo(4)) + " kind " + upTo(5) + ";");
-        }
-        for (int i = upTo(2); i > 0; i--) {
-            lines.add("bar " + tests(0) + ";");
-        }
-        java.util.Collections.shuffle(lines, RANDOM);
-        return "ends " + ends + ";" + String.join("", lines);
-    }
-
-    private static String pair(int ends) {
-        int a = upTo(ends - 1);
-        int b = (a + 1 + upTo(ends - 2)) % ends;
-        return " " + a + " " + b;
-    }
-
-    private static String tests(int depth) {
-        StringBuilder text = new StringBuilder(test(depth));
-        for (int i = upTo(2); i > 0; i--) {
-            text.append(pick(" and ", " or ")).append(test(depth));
-        }
-        return text.toString();
-    }
-
-    private static String test(int depth) {
-        return sum(depth) + (upTo(2) > 0 ? pick("<", "=") + sum(depth) : "");
-    }
-
-    private static String sum(int depth) {
-        StringBuilder text = new StringBuilder(part(depth));
-        for (int i = upTo(2) * upTo(1); i > 0; i--) {
-            text.append(pick("+", "-", "*")).append(part(depth));
-        }
-        return text.toString();
-    }
-
-    private static String part(int depth) {
-        int what = upTo(depth < 2 ? 9 : 7);
-        if (what == 8) {
-            return " not " + part(depth + 1);
-        }
-        if (what == 9) {
-            return "(" + tests(depth + 1) + ")";
-        }
-        return what < 3 ? String.valueOf(upTo(what == 0 ? 9999 : 5)) : pick("sort", "next", "long", "short", "alike");
+        return FORMS.upTo(most);
     }
 
     private static void one(int number) {
         // Few ends where the oracle goes through all orders of them.
         int ends = 1 + upTo(5);
-        String text = text(ends);
+        String text = FORMS.text(ends);
         Oracle want = new Oracle();
         EndsRound poem = new EndsRound();
         int fault = want.read(text);
@@ -215,7 +139,7 @@ final class OracleTest {
         int lines = poem.count(7);
         // As often as not the same form under other names, told by other steps.
         for (int i = 0; i < 3; i++) {
-            String other = i == 2 ? text(want.ends) : renamed(want, i == 1);
+            String other = i == 2 ? FORMS.text(want.ends) : renamed(want, i == 1);
             Oracle there = new Oracle();
             int fault = there.read(other);
             Checks.due("fault of " + other, Checks.read(poem, other), fault);
@@ -279,10 +203,10 @@ final class OracleTest {
     /** Two forms of six or seven places, each of which is like many others of its form. */
     private static void regular() {
         int ends = 6 + upTo(1);
-        String turn = pick("", "swap 0 1 swap 2 3", "swap 0 1 swap 2 3 swap 4 5", "swap 0 1 swap 1 2 swap 3 4 swap 4 5");
-        String pairs = pick("010212", "01120334 4553", "011220344553", "01", "0123", "012345", "0112233445", "01122330", "031425", "0314250145");
+        String turn = FORMS.pick("", "swap 0 1 swap 2 3", "swap 0 1 swap 2 3 swap 4 5", "swap 0 1 swap 1 2 swap 3 4 swap 4 5");
+        String pairs = FORMS.pick("010212", "01120334 4553", "011220344553", "01", "0123", "012345", "0112233445", "01122330", "031425", "0314250145");
         Oracle here = regular(ends, turn, pairs);
-        Oracle there = regular(ends, upTo(4) == 0 ? pick(turn, "") : turn, upTo(4) == 0 ? "0123" : pairs);
+        Oracle there = regular(ends, upTo(4) == 0 ? FORMS.pick(turn, "") : turn, upTo(4) == 0 ? "0123" : pairs);
         String first = renamed(here, false);
         String second = renamed(there, false);
         EndsRound poem = Checks.of(second);
@@ -310,24 +234,10 @@ final class OracleTest {
         return form;
     }
 
-    /** A form with one or two tokens left out, doubled or made another one. */
     private static void faults() {
-        StringBuilder text = new StringBuilder(text(1 + upTo(11)));
-        for (int i = upTo(2); i > 0; i--) {
-            int at = upTo(text.length() - 1);
-            String other = pick(";", " 3 ", " 0", "00000 ", "not ", "(", ")", "-", " back ", "turn back;", "bar 1;", "rhyme 0 1;",
-                "feet 3;", "whole 1 every 2;", "word wb rhyme 1 beats 1 kind 2;", "ends 2;", "A", "\n", ".", "sort", "<", "=", "+",
-                " and ", " or ", " every ", "((((", "not not not ", "bar 1;bar 2;bar 3;", "turn back back back back back;",
-                "rhyme 0 1;rhyme 0 1;rhyme 0 1;rhyme 0 1;rhyme 0 1;", "swap", "shift", "abcdefgh", " 13 ", " 12 ");
-            if (RANDOM.nextBoolean()) {
-                text.insert(at, other);
-            } else {
-                text.replace(at, Math.min(text.length(), at + 1 + upTo(6)), other);
-            }
-        }
-        String whole = text.length() > 1000 ? text.substring(0, 1000) : text.toString();
-        int want = new Oracle().read(whole);
+        String text = FORMS.spoilt(FORMS.text(1 + upTo(11)));
+        int want = new Oracle().read(text);
         EndsRound poem = new EndsRound();
-        Checks.due("fault of " + whole, Checks.read(poem, whole), want);
+        Checks.due("fault of " + text, Checks.read(poem, text), want);
     }
 }
